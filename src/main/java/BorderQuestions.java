@@ -558,7 +558,6 @@ public final class BorderQuestions {
             v = newV;
             knows = newKnows;
             tired = 0;
-            // The place may have been another's before an undo.
             Arrays.fill(parts, 0);
         }
 

@@ -4,15 +4,18 @@ import java.util.Random;
 public final class ModelTests {
     private static final int RUNS = 400, CALLS = 512;
     private static final int[] ODD = {Integer.MIN_VALUE, Integer.MIN_VALUE + 9, Integer.MIN_VALUE + 25, Integer.MAX_VALUE,
-        Integer.MAX_VALUE - 1, -1, -2, -10, 6, 7, 8, 10, 12, 60, 61, 99, 100, 127, 128, 4095, 4096, 65536};
+        Integer.MAX_VALUE - 1, -1, -2, -10, 3, 4, 5, 6, 7, 8, 10, 12, 60, 61, 99, 100, 127, 128, 4095, 4096, 65536};
 
     private final Random random;
     private final BorderQuestions real = new BorderQuestions();
     private final PlainModel model = new PlainModel();
+    private final int seldom;
     private int calls;
 
     private ModelTests(long seed) {
         random = new Random(seed);
+        // Every tenth run is mostly of odd numbers.
+        seldom = seed % 10 == 9 ? 2 : 25;
     }
 
     public static void main(String[] args) {
@@ -56,7 +59,7 @@ public final class ModelTests {
     }
 
     private int n(int most) {
-        return random.nextInt(25) == 0 ? ODD[random.nextInt(ODD.length)] : random.nextInt(most);
+        return random.nextInt(seldom) == 0 ? ODD[random.nextInt(ODD.length)] : random.nextInt(most);
     }
 
     // ---- texts, mostly whole ones

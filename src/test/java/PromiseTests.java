@@ -507,6 +507,31 @@ public final class PromiseTests {
         }
         meaning("keen 7 p=2;rest 4;keen 20 v=6;dull 9 n=2;dull 50 p=1", 18);
         hoursInBorders();
+        kindsAndManyClauses();
+        faultsLeaveNothing();
+    }
+
+    private static void kindsAndManyClauses() {
+        BorderQuestions x = fresh("promise 12, kinds and ten clauses");
+        x.guard(DEEP, 9, 0);
+        x.guard(LAWYER, 9, 0);
+        x.question(3, 0);
+        text(x, "keen 1 k=1;rest 7;rest 8;rest 4;keen 3 k>0;dull 4 k=0;keen 5 v=9;keen 6 k=3;keen 7 p=0;keen 9 k=1");
+        Due.is("all of the deep one", x.of(0, 10), -2 + 9 + 1 + 3 + 5 + 7 + 9);
+        Due.is("all of the lawyer", x.of(1, 10), -2 + 3 + 5 + 6);
+        Due.is("rest", x.told(1), 4);
+    }
+
+    private static void faultsLeaveNothing() {
+        BorderQuestions x = fresh("promise 12, after many faults");
+        x.guard(GUARD, 0, 0);
+        x.question(0, 0);
+        for (int i = 0; i < 9; i++) {
+            text(x, "rest 9;keen 1 p=0|p=0|p=0|p=0|p=0|p=0|p=0|p=0|p=0;dull 7 p=0;x");
+        }
+        text(x, "keen 3 !(p=1|h>0);dull 1 n=0&t=0");
+        Due.is("only the last", x.of(0, 10), 2);
+        Due.is("rest", x.told(1), 5);
     }
 
     private static void hoursInBorders() {
@@ -570,6 +595,23 @@ public final class PromiseTests {
         x.ask(1, 0);
         x.ask(2, 3);
         Due.is("none waiting", x.told(5), 0);
+        allAreNeeded();
+    }
+
+    private static void allAreNeeded() {
+        BorderQuestions x = fresh("promise 13, all six");
+        for (int i = 0; i < 6; i++) {
+            x.guard(GUARD, 0, 1 << 5 - i);
+            x.question(1 << i, i);
+            Due.is("so many are needed", x.told(5), i < 5 ? -5 : 63);
+        }
+        Due.is("all are brought", x.told(6), 15);
+        for (int q = 0; q < 6; q++) {
+            Due.is("question " + q, x.told(10 + q), 5 - q);
+        }
+        x.ask(5, 0);
+        Due.is("five are needed", x.told(5), 62);
+        Due.is("four are brought", x.told(6), 10);
     }
 
     private static void toldLoad() {
@@ -682,7 +724,24 @@ public final class PromiseTests {
             Due.is("what " + what, x.on(1, what), -1);
             Due.is("what ahead of n, " + what, x.on(61, what), -1);
         }
+        ofOtherKinds();
         beyondTheLastHour();
+    }
+
+    private static void ofOtherKinds() {
+        BorderQuestions x = fresh("promise 15, other kinds");
+        x.guard(DEEP, 9, 0);
+        x.guard(TOLD, 0, 0);
+        x.guard(LAWYER, 0, 1);
+        for (int p = 0; p < 3; p++) {
+            x.question(1, 10 << p);
+            x.bring(p, p);
+        }
+        x.row(1, 1, 5);
+        Due.is("deep and told can, the lawyer can not", x.on(1, 0), 30);
+        Due.is("deep learns nothing", x.on(1, 10), 0);
+        x.row(1, 1, 4);
+        Due.is("told learns", x.on(1, 11), 1);
     }
 
     private static void beyondTheLastHour() {
@@ -745,6 +804,14 @@ public final class PromiseTests {
         Due.is("by the border: 7, 8, 9", x.can(1, 0), 3);
         Due.is("by the border: 7", x.can(1, 1), 7);
         Due.is("v stays", x.of(1, 1), 2);
+        x.hear(-1, 0, true);
+        text(x, "keen 9 k=0&v>8");
+        x.hear(1, 0, true);
+        Due.is("by the border: 9", x.can(1, 0), 1);
+        Due.is("by the border: 9", x.can(1, 1), 9);
+        x.hear(1, 0, false);
+        Due.is("both can not be", x.can(1, 0), 0);
+        Due.is("both can not be", x.can(1, 1), -5);
         Due.is("what 2", x.can(0, 2), -1);
         Due.is("what -1", x.can(0, -1), -1);
         Due.is("guard 2", x.can(2, 0), -1);
@@ -857,6 +924,26 @@ public final class PromiseTests {
         Due.is("nothing learnt", x.of(0, 2), 3);
         Due.is("still tired", x.of(0, 3), 40);
         Due.is("no hour", x.told(0), 0);
+        endingsByTired();
+    }
+
+    private static void endingsByTired() {
+        BorderQuestions x = fresh("promise 21, tired becomes 0");
+        x.guard(GUARD, 0, 1);
+        x.question(1, 10);
+        x.question(3, 20);
+        text(x, "rest 1");
+        x.tire(0, 1);
+        x.plan(1, 0);
+        x.plan(0, 0);
+        x.plan(1, 10);
+        Due.is("10 is left", x.ends(0), 10);
+        x.plan(-1, 0);
+        x.plan(2, 0);
+        x.plan(1, 0);
+        x.plan(0, 0);
+        x.plan(1, 10);
+        Due.is("9 is left", x.ends(0), 30);
     }
 
     private static void books() {
@@ -910,6 +997,7 @@ public final class PromiseTests {
         Due.is("bytes", x.judge(1, 9), -12);
         x.tape(0, 1, 5);
         Due.is("0 is otherwise", x.judge(0, 1), 0);
+        Due.is("0 is otherwise from 0 on", x.judge(0, 0), 0);
         x.item(0, 1, 1000);
         Due.is("1 is otherwise", x.judge(0, 1), 1);
         x.item(0, 2, 2000);
@@ -1030,6 +1118,12 @@ public final class PromiseTests {
         Due.is("no trace", x.trace(0), -1);
         Due.is("no act -1", x.act(0, -1, 4), 0);
         Due.is("no guard -1", x.act(-1, 0, 4), 0);
+        for (int p = 0; p < 6; p++) {
+            Due.is("no act 3 of " + p, x.act(p, 3, 4), 0);
+            Due.is("no act -1 of " + p, x.act(p, -1, 4), 0);
+            Due.is("no act -2 of " + p, x.act(p, -2, 4), 0);
+            Due.is("no trace", x.count(7), 0);
+        }
         BorderQuestions y = new BorderQuestions();
         y.guard(GUARD, 0, 0);
         y.guard(TOLD, 6, 0);
