@@ -8,7 +8,7 @@ public final class BorderQuestions {
     private static final int NOTHING = -11, CAST = -12, PLACE = -13, SIZE = -14;
     private static final int MATTERS = 12, SETS = 4096;
     private static final int MOST = 6, KINDS = 7, PARTS = 4;
-    private static final int LEAST_TOLD = 6;
+    private static final int GUARD = 0, DEEP = 1, SIMPLE = 2, LAWYER = 3, SHEPHERD = 4, BOY = 5, TOLD = 6;
     private static final int WAITING = 0, THROUGH = 1, FINED = 2;
     private static final int LAST_HOUR = 9999, HOURS_AT_ONCE = 60;
     private static final int SHORTS = 1, SORTS = 5, TAPE_MOST = 60;
@@ -163,7 +163,7 @@ public final class BorderQuestions {
         if (!isDigit(n)) {
             return BAD;
         }
-        if (one.kind != LEAST_TOLD) {
+        if (one.kind != TOLD) {
             return STATE;
         }
         return one.changeRow(part, n);
@@ -1071,17 +1071,17 @@ public final class BorderQuestions {
             }
             int sum = 2 * known - (n - known) - one.tired / 10 + bonus;
             switch (one.kind) {
-                case 1:
+                case DEEP:
                     return sum + v;
-                case 2:
+                case SIMPLE:
                     return sum / 2 + 1;
-                case 3:
+                case LAWYER:
                     return n < 2 ? 0 : sum;
-                case 4:
+                case SHEPHERD:
                     return sum + v + (yard.hour % 3 == 0 ? 3 : 0);
-                case 5:
+                case BOY:
                     return sum / 2 + 1 - (one.tired >= 30 ? 4 : 0);
-                case 6:
+                case TOLD:
                     return (n < 2 ? 0 : sum) + one.parts[n & 3] - 4;
                 default:
                     return sum;
@@ -1479,21 +1479,21 @@ public final class BorderQuestions {
                 case 12:
                     return perform(self, NODS, x, depth) * 2;
                 case 20:
-                    return perform(0, NODS, x, depth) ^ 6;
+                    return perform(GUARD, NODS, x, depth) ^ 6;
                 case 30:
-                    return perform(0, LISTENS, x * 3, depth);
+                    return perform(GUARD, LISTENS, x * 3, depth);
                 case 40:
-                    return perform(0, TELLS, x, depth) + perform(self, NODS, 1, depth);
+                    return perform(GUARD, TELLS, x, depth) + perform(self, NODS, 1, depth);
                 case 50:
-                    return -perform(1, LISTENS, x, depth);
+                    return -perform(DEEP, LISTENS, x, depth);
                 case 51:
-                    return perform(1, NODS, x + 1, depth);
+                    return perform(DEEP, NODS, x + 1, depth);
                 case 60:
-                    return perform(2, TELLS, x - i, depth);
+                    return perform(SIMPLE, TELLS, x - i, depth);
                 case 70:
-                    return perform(3, NODS, x, depth) + perform(3, LISTENS, 2, depth);
+                    return perform(LAWYER, NODS, x, depth) + perform(LAWYER, LISTENS, 2, depth);
                 case 71:
-                    return perform(3, LISTENS, x, depth) ^ v;
+                    return perform(LAWYER, LISTENS, x, depth) ^ v;
                 default:
                     return 0;
             }
