@@ -69,7 +69,7 @@ public final class BorderQuestions {
     private int ofQuestion(Guard one, int guard, int what) {
         Question weighed = now.questionAt(what - 10);
         if (weighed != null) {
-            return rules.wit(now, guard, one.knows, one.v, weighed.matters);
+            return rules.wit(now, guard, one.knows, weighed.matters);
         }
         Question studied = now.questionAt(what - 20);
         if (studied != null) {
@@ -185,8 +185,8 @@ public final class BorderQuestions {
         if (fault >= 0) {
             return -10 - fault;
         }
-        now.held = rules.keepSpare();
-        return now.held;
+        now.held = spare;
+        return rules.keepSpare();
     }
 
     public int told(int what) {
@@ -194,7 +194,7 @@ public final class BorderQuestions {
             case 0:
                 return now.hour;
             case 1:
-                return rules.rest(now);
+                return now.rest();
             case 2:
                 return now.goodsThrough();
             case 3:
@@ -328,7 +328,9 @@ public final class BorderQuestions {
             return NONE;
         }
         tried.copy(now);
-        rules.carryOut(tried);
+        for (int i = 0; i < tried.plan.size; i++) {
+            rules.carryOut(tried, tried.plan.first(i), tried.plan.second(i));
+        }
         return what == 0 ? tried.goodsThrough() : tried.finedCount();
     }
 
@@ -660,7 +662,7 @@ public final class BorderQuestions {
         private int guardCount;
         private int questionCount;
         private int hour;
-        private int held = -1;
+        private Border held;
 
         private Yard() {
             for (int i = 0; i < MOST; i++) {
@@ -709,6 +711,10 @@ public final class BorderQuestions {
             book.copy(other.book);
         }
 
+        private int rest() {
+            return held == null ? 5 : held.rest;
+        }
+
         private boolean isWaiting(int q) {
             Question one = questionAt(q);
             return one != null && one.state == WAITING;
@@ -750,23 +756,19 @@ public final class BorderQuestions {
         }
     }
 
-    /** A BORDER as read: its CLAUSES, each E as signs of which the deeds stand behind what they join. */
+    /** A BORDER as read: signs one behind the other, each deed behind what it joins, each CLAUSE's worth behind its E. */
     static final class Border {
-        private static final int CLAUSES = 10, CODES = 100;
-        private static final int NOT = 0, AND = 1, OR = 2, TESTS = 3;
+        private static final int CODES = 100;
+        private static final int NOT = 0, AND = 1, OR = 2, TESTS = 3, WORTHS = 10000;
         private static final int SMALLER = 0, EQUAL = 1;
         private static final int NUMBERS = 100, SIGNS = 3;
 
-        private final int[] worths = new int[CLAUSES];
-        private final int[] starts = new int[CLAUSES];
-        private final int[] stops = new int[CLAUSES];
         private final int[] codes = new int[CODES];
-        private int clauseCount;
+        private final int[] facts = new int[6];
         private int codeCount;
         private int rest;
 
         private void clear() {
-            clauseCount = 0;
             codeCount = 0;
             rest = 5;
         }
@@ -782,27 +784,22 @@ public final class BorderQuestions {
             addCode(TESTS + (letter * SIGNS + sign) * NUMBERS + number);
         }
 
-        private void addClause(int worth, int start) {
-            if (clauseCount < CLAUSES) {
-                worths[clauseCount] = worth;
-                starts[clauseCount] = start;
-                stops[clauseCount] = codeCount;
-                clauseCount++;
-            }
+        private void addWorth(int worth) {
+            addCode(WORTHS + worth);
         }
 
-        private int bonus(int[] facts) {
+        /** What all keen and dull give together: it hangs on no one MATTER, so it is had once for many sets. */
+        private int bonus(Guard one, int p, int v, int n, int hour) {
+            facts[0] = p;
+            facts[1] = one == null ? 0 : one.kind;
+            facts[2] = v;
+            facts[3] = one == null ? 0 : one.tired / 10;
+            facts[4] = n;
+            facts[5] = hour % 10;
             int sum = 0;
-            for (int i = 0; i < clauseCount; i++) {
-                sum += holds(facts, starts[i], stops[i]) ? worths[i] : 0;
-            }
-            return sum;
-        }
-
-        // The bits of one number are the stack: E nests so little that it never needs 32.
-        private boolean holds(int[] facts, int start, int stop) {
+            // The bits of one number are the stack: E nests so little that it never needs 32.
             int stack = 0;
-            for (int i = start; i < stop && i < CODES; i++) {
+            for (int i = 0; i < codeCount && i < CODES; i++) {
                 int code = codes[i];
                 int top = stack & 1;
                 if (code == NOT) {
@@ -811,14 +808,17 @@ public final class BorderQuestions {
                     stack = (stack >>> 1) & (top | -2);
                 } else if (code == OR) {
                     stack = (stack >>> 1) | top;
+                } else if (code < WORTHS - NUMBERS) {
+                    stack = (stack << 1) | (testHolds(code - TESTS) ? 1 : 0);
                 } else {
-                    stack = (stack << 1) | (testHolds(facts, code - TESTS) ? 1 : 0);
+                    sum += top * (code - WORTHS);
+                    stack = 0;
                 }
             }
-            return (stack & 1) == 1;
+            return sum;
         }
 
-        private static boolean testHolds(int[] facts, int test) {
+        private boolean testHolds(int test) {
             int number = test % NUMBERS;
             int sign = test / NUMBERS % SIGNS;
             int letter = test / NUMBERS / SIGNS;
@@ -834,20 +834,21 @@ public final class BorderQuestions {
 
     /** THE TEXT, and how a BORDER is read from it: no step is taken over a sign with which none begins so. */
     static final class Reader {
-        private static final int TEXT_MOST = 100, NESTED = 4;
+        private static final int TEXT_MOST = 100, CLAUSES = 10, NESTED = 4, END = -1;
         private static final String LETTERS = "pkvtnh", SIGNS = "<=>", DIGITS = "0123456789";
 
         private final byte[] text = new byte[TEXT_MOST];
         private int length;
         private int at;
+        private int sign;
         private int number;
         private Border made;
 
-        private int add(int sign) {
+        private int add(int fed) {
             if (length >= TEXT_MOST) {
                 return FULL;
             }
-            text[length] = (byte) sign;
+            text[length] = (byte) fed;
             length++;
             return length;
         }
@@ -856,59 +857,54 @@ public final class BorderQuestions {
         private int readInto(Border border) {
             made = border;
             made.clear();
-            at = 0;
-            boolean whole = readClauses();
+            goTo(0);
+            boolean whole = readClause();
+            for (int more = 1; more < CLAUSES && whole && sign != END; more++) {
+                whole = skip(';') && readClause();
+            }
+            whole = whole && sign == END;
             length = 0;
             return whole ? -1 : at;
         }
 
-        private int sign() {
-            return at < 0 || at >= length || at >= TEXT_MOST ? -1 : text[at];
+        private void goTo(int place) {
+            at = place;
+            sign = place < 0 || place >= length || place >= TEXT_MOST ? END : text[place];
         }
 
-        private boolean skip(int sign) {
-            if (sign() != sign) {
+        private boolean skip(int due) {
+            if (sign != due) {
                 return false;
             }
-            at++;
+            goTo(at + 1);
             return true;
         }
 
         private int placeIn(String signs) {
             for (int i = 0; i < signs.length(); i++) {
-                if (signs.charAt(i) == sign()) {
+                if (signs.charAt(i) == sign) {
                     return i;
                 }
             }
             return -1;
         }
 
-        private boolean readClauses() {
-            for (int more = Border.CLAUSES - 1; more >= 0; more--) {
-                if (!readClause()) {
-                    return false;
-                }
-                if (at == length) {
-                    return true;
-                }
-                if (more == 0 || !skip(';')) {
-                    return false;
-                }
-            }
-            return false;
-        }
-
         private boolean readClause() {
-            switch (sign()) {
-                case 'k':
-                    return readNumbered("keen ") && readJudgement(number);
-                case 'd':
-                    return readNumbered("dull ") && readJudgement(-number);
-                case 'r':
-                    return readNumbered("rest ") && readRest();
-                default:
-                    return false;
+            int first = sign;
+            // What begins like none of the three stops at the first sign of any word.
+            if (!readNumbered(first == 'k' ? "keen " : first == 'd' ? "dull " : "rest ")) {
+                return false;
             }
+            int worth = first == 'd' ? -number : number;
+            if (first == 'r') {
+                made.rest = worth;
+                return true;
+            }
+            if (!skip(' ') || !readEither(0)) {
+                return false;
+            }
+            made.addWorth(worth);
+            return true;
         }
 
         private boolean readNumbered(String word) {
@@ -920,73 +916,57 @@ public final class BorderQuestions {
             return readNumber();
         }
 
-        private boolean readRest() {
-            made.rest = number;
-            return true;
-        }
-
-        private boolean readJudgement(int worth) {
-            int start = made.codeCount;
-            if (!skip(' ') || !readEither(0)) {
-                return false;
-            }
-            made.addClause(worth, start);
-            return true;
-        }
-
         private boolean readNumber() {
             int first = placeIn(DIGITS);
             if (first < 0) {
                 return false;
             }
-            at++;
+            goTo(at + 1);
             number = first;
             int second = placeIn(DIGITS);
             if (second >= 0) {
-                at++;
+                goTo(at + 1);
                 number = first * 10 + second;
             }
             return true;
         }
 
+        /** E: an & is done as soon as what follows it is read, an | when the T that follows it has come to its end. */
         private boolean readEither(int depth) {
-            if (!readBoth(depth)) {
-                return false;
-            }
-            for (int more = 0; more < TEXT_MOST && skip('|'); more++) {
-                if (!readBoth(depth)) {
-                    return false;
-                }
-                made.addCode(Border.OR);
-            }
-            return true;
-        }
-
-        private boolean readBoth(int depth) {
-            if (!readPart(depth)) {
-                return false;
-            }
-            for (int more = 0; more < TEXT_MOST && skip('&'); more++) {
+            boolean andDue = false;
+            boolean orDue = false;
+            for (int more = 0; more < TEXT_MOST; more++) {
                 if (!readPart(depth)) {
                     return false;
                 }
-                made.addCode(Border.AND);
+                if (andDue) {
+                    made.addCode(Border.AND);
+                }
+                andDue = skip('&');
+                if (!andDue) {
+                    if (orDue) {
+                        made.addCode(Border.OR);
+                    }
+                    orDue = skip('|');
+                    if (!orDue) {
+                        return true;
+                    }
+                }
             }
-            return true;
+            return false;
         }
 
         private boolean readPart(int depth) {
-            int opening = sign();
-            if (opening != '!' && opening != '(') {
+            if (sign != '!' && sign != '(') {
                 return readTest();
             }
             if (depth >= NESTED) {
                 return false;
             }
-            at++;
-            if (opening == '(') {
+            if (skip('(')) {
                 return readEither(depth + 1) && skip(')');
             }
+            goTo(at + 1);
             if (!readPart(depth + 1)) {
                 return false;
             }
@@ -999,16 +979,16 @@ public final class BorderQuestions {
             if (letter < 0) {
                 return false;
             }
-            at++;
-            int sign = placeIn(SIGNS);
-            if (sign < 0) {
+            goTo(at + 1);
+            int comparison = placeIn(SIGNS);
+            if (comparison < 0) {
                 return false;
             }
-            at++;
+            goTo(at + 1);
             if (!readNumber()) {
                 return false;
             }
-            made.addTest(letter, sign, number);
+            made.addTest(letter, comparison, number);
             return true;
         }
     }
@@ -1016,7 +996,6 @@ public final class BorderQuestions {
     /** The BORDERS, WIT, and how HOURS go. */
     static final class Rules {
         private final Border[] borders = new Border[MOST];
-        private final int[] facts = new int[6];
         private int borderCount;
 
         private Rules() {
@@ -1034,34 +1013,14 @@ public final class BorderQuestions {
             return borderCount - 1;
         }
 
-        private Border heldBy(Yard yard) {
-            return yard.held < 0 || yard.held >= borderCount || yard.held >= borders.length ? null : borders[yard.held];
-        }
-
-        private int rest(Yard yard) {
-            Border held = heldBy(yard);
-            return held == null ? 5 : held.rest;
-        }
-
-        /** What all keen and dull give together: it hangs on no one MATTER, so it is had once for many sets. */
-        private int bonus(Yard yard, int p, int v, int n) {
-            Border held = heldBy(yard);
+        private int wit(Yard yard, int p, int knows, int matters) {
             Guard one = yard.guardAt(p);
-            if (held == null || one == null) {
+            if (one == null) {
                 return 0;
             }
-            facts[0] = p;
-            facts[1] = one.kind;
-            facts[2] = v;
-            facts[3] = one.tired / 10;
-            facts[4] = n;
-            facts[5] = yard.hour % 10;
-            return held.bonus(facts);
-        }
-
-        private int wit(Yard yard, int p, int knows, int v, int matters) {
             int n = Integer.bitCount(matters);
-            return witKnowing(yard, p, v, n, Integer.bitCount(matters & knows), bonus(yard, p, v, n));
+            int bonus = yard.held == null ? 0 : yard.held.bonus(one, p, one.v, n, yard.hour);
+            return witKnowing(yard, p, one.v, n, Integer.bitCount(matters & knows), bonus);
         }
 
         private int witKnowing(Yard yard, int p, int v, int n, int known, int bonus) {
@@ -1088,13 +1047,9 @@ public final class BorderQuestions {
             }
         }
 
-        private boolean answers(Yard yard, int p, int knows, int v, int matters) {
-            return wit(yard, p, knows, v, matters) > 0;
-        }
-
-        private boolean answersNow(Yard yard, int p, int matters) {
+        private boolean answers(Yard yard, int p, int matters) {
             Guard one = yard.guardAt(p);
-            return one != null && answers(yard, p, one.knows, one.v, matters);
+            return one != null && wit(yard, p, one.knows, matters) > 0;
         }
 
         /** A QUESTION is ASKED of a GUARD. */
@@ -1104,7 +1059,7 @@ public final class BorderQuestions {
             if (one == null || asked == null || one.state != WAITING) {
                 return;
             }
-            if (answersNow(yard, p, one.matters)) {
+            if (answers(yard, p, one.matters)) {
                 one.state = THROUGH;
                 asked.tired = Math.min(99, asked.tired + 10);
             } else {
@@ -1126,7 +1081,7 @@ public final class BorderQuestions {
                     putTo(yard, q, one.brought);
                 }
             }
-            int rest = rest(yard);
+            int rest = yard.rest();
             for (int p = 0; p < yard.guardCount; p++) {
                 Guard one = yard.guardAt(p);
                 if (one != null) {
@@ -1136,13 +1091,8 @@ public final class BorderQuestions {
             yard.hour++;
         }
 
-        private void carryOut(Yard yard) {
-            for (int i = 0; i < yard.plan.size; i++) {
-                carryOutRow(yard, yard.plan.first(i), yard.plan.second(i));
-            }
-        }
-
-        private void carryOutRow(Yard yard, int what, int n) {
+        /** A row of the PLAN. */
+        private void carryOut(Yard yard, int what, int n) {
             if (what == 0) {
                 letHourPass(yard);
             } else if (what == 1) {
@@ -1180,7 +1130,7 @@ public final class BorderQuestions {
                 Question one = yard.questionAt(q);
                 able[q] = 0;
                 for (int p = 0; p < yard.guardCount && one != null && one.state == WAITING; p++) {
-                    able[q] |= rules.answersNow(yard, p, one.matters) ? 1 << p : 0;
+                    able[q] |= rules.answers(yard, p, one.matters) ? 1 << p : 0;
                 }
             }
         }
@@ -1269,7 +1219,7 @@ public final class BorderQuestions {
             }
             int learnt = 0;
             for (int i = 0; i <= MATTERS; i++) {
-                if (rules.answers(yard, p, one.knows | learnt, one.v, matters)) {
+                if (rules.wit(yard, p, one.knows | learnt, matters) > 0) {
                     return learnt;
                 }
                 learnt |= Integer.lowestOneBit(matters & ~one.knows & ~learnt);
@@ -1303,7 +1253,7 @@ public final class BorderQuestions {
         }
 
         private int fits(Yard yard, int p, int v, int n, boolean canAnswer) {
-            int bonus = rules.bonus(yard, p, v, n);
+            int bonus = yard.held == null ? 0 : yard.held.bonus(yard.guardAt(p), p, v, n, yard.hour);
             int bits = 0;
             for (int known = 0; known <= n; known++) {
                 boolean answers = rules.witKnowing(yard, p, v, n, known, bonus) > 0;
@@ -1382,7 +1332,7 @@ public final class BorderQuestions {
         private int oddsAbove(Yard yard, int p, int matters) {
             int count = 0;
             for (int matter = 0; matter < MATTERS; matter++) {
-                count += rules.answersNow(yard, p, matters | 1 << matter) ? 1 : 0;
+                count += rules.answers(yard, p, matters | 1 << matter) ? 1 : 0;
             }
             return count;
         }

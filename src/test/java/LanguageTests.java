@@ -7,6 +7,7 @@ import com.sun.source.tree.Tree;
 import com.sun.source.tree.VariableTree;
 import com.sun.source.util.JavacTask;
 import com.sun.source.util.SourcePositions;
+import com.sun.source.util.TreePathScanner;
 import com.sun.source.util.TreeScanner;
 import com.sun.source.util.Trees;
 import java.io.File;
@@ -15,11 +16,15 @@ import java.lang.reflect.Constructor;
 import java.lang.reflect.Field;
 import java.lang.reflect.Method;
 import java.lang.reflect.Modifier;
+import java.util.ArrayList;
 import java.util.Arrays;
 import java.util.HashSet;
+import java.util.LinkedHashMap;
 import java.util.List;
+import java.util.Map;
 import java.util.Set;
 import java.util.TreeSet;
+import javax.lang.model.element.Element;
 import javax.tools.JavaCompiler;
 import javax.tools.StandardJavaFileManager;
 import javax.tools.ToolProvider;
@@ -43,6 +48,9 @@ public final class LanguageTests {
     private static final Set<String> CALLED = new HashSet<>(Arrays.asList(
         "Math.max", "Math.min", "Integer.bitCount", "Integer.lowestOneBit", "System.arraycopy", "Arrays.fill"));
 
+    // The depth of each is carried as an argument.
+    private static final Set<String> RECURSIVE = Set.of("readEither", "readPart", "perform", "run");
+
     private LanguageTests() {
     }
 
@@ -50,6 +58,7 @@ public final class LanguageTests {
         Due.about("language");
         face();
         source();
+        calls();
         Due.end();
     }
 
@@ -92,6 +101,96 @@ public final class LanguageTests {
                 Due.holds("classes: " + looker.classes, looker.classes <= 12);
                 Due.is("private methods with a public one's name", looker.twice(), 0);
             }
+        }
+    }
+
+    /** Rules 8 and 11: which methods call themselves or one another, and how deep all other calls go. */
+    private static void calls() throws IOException {
+        JavaCompiler compiler = ToolProvider.getSystemJavaCompiler();
+        try (StandardJavaFileManager files = compiler.getStandardFileManager(null, null, null)) {
+            JavacTask task = (JavacTask) compiler.getTask(null, files, null, List.of("-proc:none"), null,
+                files.getJavaFileObjects(new File(SOURCE)));
+            Iterable<? extends CompilationUnitTree> units = task.parse();
+            task.analyze();
+            Caller caller = new Caller(Trees.instance(task));
+            for (CompilationUnitTree unit : units) {
+                caller.scan(unit, null);
+            }
+            Due.holds("calls were found", caller.calls.size() > 100);
+            for (Element method : caller.calls.keySet()) {
+                Due.holds(method + " calls itself", !caller.reaches(method, method) || RECURSIVE.contains(method.getSimpleName().toString()));
+                int deep = caller.deep(method);
+                Due.holds(method + " goes " + deep + " deep", deep <= 8);
+            }
+        }
+    }
+
+    /** Which method of the file calls which. */
+    private static final class Caller extends TreePathScanner<Void, Void> {
+        private final Trees trees;
+        private final Map<Element, Set<Element>> calls = new LinkedHashMap<>();
+        private Element within;
+
+        private Caller(Trees trees) {
+            this.trees = trees;
+        }
+
+        @Override
+        public Void visitMethod(MethodTree tree, Void none) {
+            within = trees.getElement(getCurrentPath());
+            calls.computeIfAbsent(within, e -> new HashSet<>());
+            return super.visitMethod(tree, none);
+        }
+
+        private void called() {
+            Element one = trees.getElement(getCurrentPath());
+            if (one != null && within != null && one.toString().length() > 0 && trees.getTree(one) != null) {
+                calls.get(within).add(one);
+            }
+        }
+
+        @Override
+        public Void visitMethodInvocation(MethodInvocationTree tree, Void none) {
+            called();
+            return super.visitMethodInvocation(tree, none);
+        }
+
+        @Override
+        public Void visitNewClass(NewClassTree tree, Void none) {
+            called();
+            return super.visitNewClass(tree, none);
+        }
+
+        private boolean reaches(Element from, Element to) {
+            Set<Element> seen = new HashSet<>();
+            List<Element> open = new ArrayList<>(calls.getOrDefault(from, Set.of()));
+            while (!open.isEmpty()) {
+                Element one = open.remove(open.size() - 1);
+                if (one.equals(to)) {
+                    return true;
+                }
+                if (seen.add(one)) {
+                    open.addAll(calls.getOrDefault(one, Set.of()));
+                }
+            }
+            return false;
+        }
+
+        /** How many calls stand open at most from this one on, each method that calls itself counted once. */
+        private int deep(Element method) {
+            return deep(method, new HashSet<>());
+        }
+
+        private int deep(Element method, Set<Element> open) {
+            open.add(method);
+            int deepest = 0;
+            for (Element one : calls.getOrDefault(method, Set.of())) {
+                if (!open.contains(one)) {
+                    deepest = Math.max(deepest, deep(one, open));
+                }
+            }
+            open.remove(method);
+            return deepest + 1;
         }
     }
 
