@@ -1,5 +1,6 @@
 import com.sun.source.tree.ClassTree;
 import com.sun.source.tree.CompilationUnitTree;
+import com.sun.source.tree.ImportTree;
 import com.sun.source.tree.MethodInvocationTree;
 import com.sun.source.tree.MethodTree;
 import com.sun.source.tree.NewClassTree;
@@ -41,15 +42,12 @@ public final class LanguageTests {
         "int count(int)", "int tape(int, int, int)", "int item(int, int, long)", "long read(int, int)",
         "int shift(int, int, int, int, int)"
     };
-    private static final Set<Tree.Kind> REFUSED = new HashSet<>(Arrays.asList(
+    private static final Set<Tree.Kind> REFUSED = Set.of(
         Tree.Kind.THROW, Tree.Kind.TRY, Tree.Kind.CATCH, Tree.Kind.SYNCHRONIZED, Tree.Kind.ASSERT, Tree.Kind.LAMBDA_EXPRESSION,
-        Tree.Kind.MEMBER_REFERENCE, Tree.Kind.SWITCH_EXPRESSION, Tree.Kind.INSTANCE_OF, Tree.Kind.FLOAT_LITERAL,
-        Tree.Kind.DOUBLE_LITERAL, Tree.Kind.ANNOTATION, Tree.Kind.YIELD));
-    private static final Set<String> CALLED = new HashSet<>(Arrays.asList(
-        "Math.max", "Math.min", "Integer.bitCount", "Integer.lowestOneBit", "System.arraycopy", "Arrays.fill"));
-
-    // The depth of each is carried as an argument.
-    private static final Set<String> RECURSIVE = Set.of("readEither", "readPart", "perform", "run");
+        Tree.Kind.MEMBER_REFERENCE);
+    private static final Set<String> IMPORTED = Set.of("java.util.Arrays", "java.util.ArrayList", "java.util.List", "java.util.Iterator");
+    // Rule 4, as far as static functions go.
+    private static final String LIBRARY = "(Math|Integer|Long)\\.\\w+(?<!Exact)|System\\.arraycopy|Arrays\\.(copyOf|copyOfRange|fill)|List\\.of";
 
     private LanguageTests() {
     }
@@ -96,6 +94,9 @@ public final class LanguageTests {
                 files.getJavaFileObjects(new File(SOURCE)));
             for (CompilationUnitTree unit : task.parse()) {
                 Due.holds("no package line", unit.getPackageName() == null);
+                for (ImportTree one : unit.getImports()) {
+                    Due.holds("" + one, !one.isStatic() && IMPORTED.contains(one.getQualifiedIdentifier().toString()));
+                }
                 Looker looker = new Looker(unit, Trees.instance(task).getSourcePositions());
                 looker.scan(unit, null);
                 Due.holds("classes: " + looker.classes, looker.classes <= 12);
@@ -118,7 +119,8 @@ public final class LanguageTests {
             }
             Due.holds("calls were found", caller.calls.size() > 100);
             for (Element method : caller.calls.keySet()) {
-                Due.holds(method + " calls itself", !caller.reaches(method, method) || RECURSIVE.contains(method.getSimpleName().toString()));
+                boolean own = method.getModifiers().contains(javax.lang.model.element.Modifier.PRIVATE);
+                Due.holds(method + " calls itself, and is private", own || !caller.reaches(method, method));
                 int deep = caller.deep(method);
                 Due.holds(method + " goes " + deep + " deep", deep <= 8);
             }
@@ -176,7 +178,7 @@ public final class LanguageTests {
             return false;
         }
 
-        /** How many calls stand open at most from this one on, each method that calls itself counted once. */
+        /** How many calls stand open at most from this one on; a method that calls itself counts once. */
         private int deep(Element method) {
             return deep(method, new HashSet<>());
         }
@@ -260,8 +262,8 @@ public final class LanguageTests {
         @Override
         public Void visitMethodInvocation(MethodInvocationTree tree, Void none) {
             String called = tree.getMethodSelect().toString();
-            boolean library = called.matches("[A-Z][A-Za-z]*\\..*|java\\..*");
-            Due.holds(called, !library || CALLED.contains(called) || called.equals("Acts.isUnder"));
+            boolean library = called.matches("(Math|Integer|Long|Short|Byte|Character|Boolean|String|System|Arrays|List|Runtime|Thread)\\..*|java\\..*");
+            Due.holds(called, !library || called.matches(LIBRARY));
             return super.visitMethodInvocation(tree, none);
         }
     }

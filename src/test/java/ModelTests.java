@@ -2,7 +2,7 @@ import java.util.Random;
 
 /** Random runs of calls, the same each time, on the program and on the plain model. */
 public final class ModelTests {
-    private static final int RUNS = 400, CALLS = 512;
+    private static final int RUNS = 700, TEXTS = 6000, CALLS = 512;
     private static final int[] ODD = {Integer.MIN_VALUE, Integer.MIN_VALUE + 9, Integer.MIN_VALUE + 25, Integer.MAX_VALUE,
         Integer.MAX_VALUE - 1, -1, -2, -10, 3, 4, 5, 6, 7, 8, 10, 12, 60, 61, 99, 100, 127, 128, 4095, 4096, 65536};
 
@@ -23,6 +23,10 @@ public final class ModelTests {
             Due.about("run " + run);
             new ModelTests(run).play();
         }
+        for (int run = 0; run < TEXTS && !Due.anyWrong(); run++) {
+            Due.about("text " + run);
+            new ModelTests(run).readOne();
+        }
         Due.end();
     }
 
@@ -31,9 +35,22 @@ public final class ModelTests {
         if (early) {
             people();
         }
-        while (calls < CALLS && !Due.anyWrong()) {
+        // One step is 210 calls at most; what is answered behind the 512th is free.
+        while (calls < CALLS - 210 && !Due.anyWrong()) {
             step();
         }
+    }
+
+    private void readOne() {
+        people();
+        text();
+        for (int p = 0; p < model.w.men.size(); p++) {
+            tire(p, n(100));
+            for (int q = 0; q < model.w.sacks.size(); q++) {
+                of(p, 10 + q);
+            }
+        }
+        told(1);
     }
 
     private void people() {
@@ -101,7 +118,7 @@ public final class ModelTests {
         } else if (spoil == 1) {
             made.setCharAt(at, "pkvtnh<=>!()&|; 0123456789kdr".charAt(random.nextInt(29)));
         }
-        for (int i = 0; i < made.length() && calls < CALLS - 1; i++) {
+        for (int i = 0; i < made.length() && i < 101; i++) {
             feed(made.charAt(i));
         }
         border();

@@ -526,7 +526,7 @@ public final class PromiseTests {
         BorderQuestions x = fresh("promise 12, after many faults");
         x.guard(GUARD, 0, 0);
         x.question(0, 0);
-        for (int i = 0; i < 9; i++) {
+        for (int i = 0; i < 6; i++) {
             text(x, "rest 9;keen 1 p=0|p=0|p=0|p=0|p=0|p=0|p=0|p=0|p=0;dull 7 p=0;x");
         }
         text(x, "keen 3 !(p=1|h>0);dull 1 n=0&t=0");

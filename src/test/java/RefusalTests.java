@@ -362,7 +362,7 @@ public final class RefusalTests {
 
     private static void acts() {
         Due.about("promise 27, act: 0, and no TRACE then: no such GUARD, act");
-        int[][] refused = {{-1, 0}, {3, 0}, {MIN, 0}, {MAX, 2}, {0, -1}, {0, 3}, {1, 3}, {2, MIN}, {2, MAX}, {3, 3}};
+        int[][] refused = {{-1, 0}, {3, 0}, {MIN, 0}, {MAX, 2}, {0, -1}, {0, 3}, {1, -1}, {2, -1}, {2, 3}, {1, 3}, {2, MIN}, {2, MAX}, {3, 3}};
         for (int[] call : refused) {
             String name = "act " + call[1] + " of " + call[0];
             Due.is(name, Worlds.some().act(call[0], call[1], 3), 0);

@@ -8,6 +8,7 @@ public final class Terms2Tests {
 
     public static void main(String[] args) {
         onHours();
+        onByKinds();
         onBeyondTheLastHour();
         loadMost();
         loadFirst();
@@ -80,6 +81,33 @@ public final class Terms2Tests {
         Due.is("pass goes the same way", x.pass(60), 60);
         Due.is("39", x.of(1, 3), 39);
         Due.is("30", x.told(2), 30);
+    }
+
+    /** What a GUARD is (its KIND, v, ROW) goes on into the HOURS that are asked about, and into a PLAN. */
+    private static void onByKinds() {
+        Due.about("ON, ENDS: goes on from how all is");
+        for (int kind = 0; kind < 7; kind++) {
+            for (int v = 0; v < 10; v++) {
+                // Of 0b1000 and 0b100000 it KNOWS the one or none: SUM is 1 or -2.
+                BorderQuestions x = one(kind, v, v % 2 == 0 ? 0b1000 : 0, 0b101000);
+                if (kind == TOLD) {
+                    x.row(0, 2, v);
+                }
+                boolean answers = x.of(0, 10) > 0;
+                x.bring(0, 0);
+                x.plan(0, 0);
+                Due.is("on, kind " + kind + ", v " + v, x.on(1, 0), answers ? 50 : 0);
+                Due.is("ends, kind " + kind + ", v " + v, x.ends(0), answers ? 50 : 0);
+                Due.is("kind " + kind + " can, v " + v, answers ? 1 : 0, witOfTwo(kind, v) > 0 ? 1 : 0);
+            }
+        }
+    }
+
+    /** WIT at HOUR 0 of one with v (its ROW, too) and of two MATTERS, of which it KNOWS one if v is even. */
+    private static int witOfTwo(int kind, int v) {
+        int sum = v % 2 == 0 ? 1 : -2;
+        int[] wits = {sum, sum + v, v % 2 == 0 ? 1 : 0, sum, sum + v + 3, v % 2 == 0 ? 1 : 0, sum + v - 4};
+        return wits[kind];
     }
 
     private static void onBeyondTheLastHour() {
@@ -385,6 +413,13 @@ public final class Terms2Tests {
         Due.is("the empty set", y.of(0, 6), 0);
         Worlds.border(y, "keen 13 n=12");
         Due.is("not even that", y.of(0, 6), -5);
+        BorderQuestions w = one(DEEP, 2, 0, 0b1110);
+        w.hear(0, 0, false);
+        Due.is("by its v of 2: none of three is known", w.of(0, 5), 512);
+        w.hear(-1, 0, false);
+        w.hear(0, 0, true);
+        Due.is("by its v of 2: one of three at least", w.of(0, 5), 4096 - 512);
+        Due.is("by its v of 2: the least", w.of(0, 6), 2);
         BorderQuestions z = one(LAWYER, 0, 0, 1);
         z.hear(0, 0, false);
         Due.is("all sets", z.of(0, 5), 4096);
@@ -576,9 +611,29 @@ public final class Terms2Tests {
         x.plan(3, 2);
         x.plan(0, 0);
         Due.is("and again: learnt", x.ends(0), 40);
+        tiredIsNought();
         Due.is("all is as it was", x.told(4), 7);
         Due.is("all is as it was", x.of(0, 3), 20);
         Due.is("all is as it was", x.of(1, 2), 0);
+    }
+
+    /** From 0, and not from 1, TIRED comes to 9 by an ASK and a REST of 1. */
+    private static void tiredIsNought() {
+        BorderQuestions x = one(GUARD, 0, 0b1, 0b1);
+        x.question(0b1, 20);
+        Worlds.border(x, "rest 1;dull 2 t>0");
+        x.tire(0, 99);
+        x.plan(2, 0);
+        x.plan(1, 0);
+        x.plan(0, 0);
+        x.plan(1, 10);
+        Due.is("0, 10, 9, 19", x.ends(0), 70);
+        x.tire(0, 1);
+        x.plan(-1, 0);
+        x.plan(1, 0);
+        x.plan(0, 0);
+        x.plan(1, 10);
+        Due.is("1, 11, 10", x.ends(0), 50);
     }
 
     private static void ends() {
@@ -728,7 +783,12 @@ public final class Terms2Tests {
         traced(x, 6, 0);
         traced(x, 0, 1, 11, 10);
         traced(x, 0, 3);
-        traced(x, 0, -1);
+        for (int p = 0; p < 6; p++) {
+            traced(x, p, 3);
+            traced(x, p, -1);
+            traced(x, p, 4);
+            traced(x, p, -2);
+        }
         BorderQuestions y = new BorderQuestions();
         y.guard(TOLD, 1, 0);
         traced(y, 0, 0, 71, 10);
