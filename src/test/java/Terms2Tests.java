@@ -617,7 +617,7 @@ public final class Terms2Tests {
         Due.is("all is as it was", x.of(1, 2), 0);
     }
 
-    /** From 0, and not from 1, TIRED comes to 9 by an ASK and a REST of 1. */
+    /** From 0, and not from 1, TIRED comes to 9 by an ASK and a REST of 1; from 0, and not from below, it comes to 10 by an ASK. */
     private static void tiredIsNought() {
         BorderQuestions x = one(GUARD, 0, 0b1, 0b1);
         x.question(0b1, 20);
@@ -628,6 +628,11 @@ public final class Terms2Tests {
         x.plan(0, 0);
         x.plan(1, 10);
         Due.is("0, 10, 9, 19", x.ends(0), 70);
+        x.plan(-1, 0);
+        x.plan(2, 0);
+        x.plan(1, 0);
+        x.plan(1, 10);
+        Due.is("0, 10", x.ends(0), 50);
         x.tire(0, 1);
         x.plan(-1, 0);
         x.plan(1, 0);

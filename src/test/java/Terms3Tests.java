@@ -245,6 +245,12 @@ public final class Terms3Tests {
         Due.is("no items, below 0", x.judge(0, -1), 100);
         Due.is("nothing", x.judge(5, 0), 100);
         Due.is("nothing, below 0", x.judge(5, -1), 100);
+        for (int sort = 0; sort < 5; sort++) {
+            x.tape(5, sort, 60);
+            x.item(5, 0, 10);
+            x.tape(5, -1, 60);
+            Due.is("nothing again", x.judge(5, 0), 100);
+        }
         x.tape(1, 1, 60);
         for (int p = 0; p < 3; p++) {
             x.item(1, 57 + p, 10 + p);
