@@ -3,6 +3,7 @@ import com.sun.source.tree.CompilationUnitTree;
 import com.sun.source.tree.ImportTree;
 import com.sun.source.tree.MethodInvocationTree;
 import com.sun.source.tree.MethodTree;
+import com.sun.source.tree.NewArrayTree;
 import com.sun.source.tree.NewClassTree;
 import com.sun.source.tree.Tree;
 import com.sun.source.tree.VariableTree;
@@ -201,6 +202,7 @@ public final class LanguageTests {
         private final SourcePositions places;
         private final Set<String> open = new HashSet<>();
         private final Set<String> hidden = new HashSet<>();
+        private String within = "";
         private int classes;
 
         private Looker(CompilationUnitTree unit, SourcePositions places) {
@@ -250,12 +252,27 @@ public final class LanguageTests {
             long lines = line(places.getEndPosition(unit, tree)) - line(places.getStartPosition(unit, tree)) + 1;
             Due.holds(name + " is short: " + lines, lines <= 60);
             Due.holds(name + " takes few", tree.getParameters().size() <= 7);
-            return super.visitMethod(tree, none);
+            within = name;
+            super.visitMethod(tree, none);
+            within = "";
+            return null;
+        }
+
+        /** Rule 12 as it is kept here: what is made is made with the object itself, and by no call. */
+        private void made(Tree tree) {
+            Due.holds(within + " makes nothing: " + tree, within.isEmpty() || within.equals("<init>"));
+        }
+
+        @Override
+        public Void visitNewArray(NewArrayTree tree, Void none) {
+            made(tree);
+            return super.visitNewArray(tree, none);
         }
 
         @Override
         public Void visitNewClass(NewClassTree tree, Void none) {
             Due.holds("no anonymous class", tree.getClassBody() == null);
+            made(tree);
             return super.visitNewClass(tree, none);
         }
 
